@@ -6,9 +6,12 @@ public final class SyntheticChain {
     private static final int MOST_DAYS_AT_ONCE = 60;
     private static final int LAST_WAY = 2;
     private static final int LAST_PLAN = 999;
-    private static final int DAYS_IN_DAY = 1;
     private static final int DAYS_IN_WEEK = 7;
     private static final int DAYS_IN_MONTH = 28;
+
+    private static final int BY_DAY = 0;
+    private static final int BY_WEEK = 1;
+    private static final int BY_MONTH = 2;
 
     // The live set is one more row behind the points' rows, so that the same few
     // methods copy and compare points and the live set alike.
@@ -155,9 +158,9 @@ public final class SyntheticChain {
             return -1;
         }
         keepOnlyPinnedAndLast();
-        keepHeads(DAYS_IN_DAY, plan / 100);
-        keepHeads(DAYS_IN_WEEK, plan / 10 % 10);
-        keepHeads(DAYS_IN_MONTH, plan % 10);
+        keepHeads(BY_DAY, plan / 100);
+        keepHeads(BY_WEEK, plan / 10 % 10);
+        keepHeads(BY_MONTH, plan % 10);
         return takeOutUnkept();
     }
 
@@ -299,10 +302,10 @@ public final class SyntheticChain {
         }
     }
 
-    private void keepHeads(int daysInPeriod, int most) {
+    private void keepHeads(int kind, int most) {
         int found = 0;
         for (int p = pointCount - 1; p >= 0 && found < most; p--) {
-            if (isHead(p, daysInPeriod)) {
+            if (isHead(p, kind)) {
                 pointKept[p] = true;
                 found++;
             }
@@ -310,11 +313,22 @@ public final class SyntheticChain {
     }
 
     // Days never go back from one point to the next, so a look at the next point is enough.
-    private boolean isHead(int p, int daysInPeriod) {
+    private boolean isHead(int p, int kind) {
         if (p == pointCount - 1) {
             return true;
         }
-        return pointDay[p] / daysInPeriod != pointDay[p + 1] / daysInPeriod;
+        return periodOf(p, kind) != periodOf(p + 1, kind);
+    }
+
+    // Divides by constants alone, so that no divisor can be 0.
+    private int periodOf(int p, int kind) {
+        if (kind == BY_WEEK) {
+            return pointDay[p] / DAYS_IN_WEEK;
+        }
+        if (kind == BY_MONTH) {
+            return pointDay[p] / DAYS_IN_MONTH;
+        }
+        return pointDay[p];
     }
 
     private int takeOutUnkept() {
