@@ -1,21 +1,28 @@
 /** Promise 12: which points a plan keeps. */
 public final class PruneTest {
     public static void main(String[] args) {
-        planBounds();
-        noPoints();
-        onlyTheLastIsKept();
-        daily();
-        weekly();
-        monthly();
-        periodEdges();
-        kindsTogether();
-        fewerHeadsThanAsked();
-        pinnedAreKept();
-        pinnedHeadsCountAsHeads();
-        lastInOrderIsTheHead();
-        keptPointsHoldWhatTheyHeld();
-        prunedAgain();
+        promise("a point's week is its day / 7", PruneTest::weekEdges);
+        promise("its month its day / 28 (whole numbers)", PruneTest::monthEdges);
+        promise("For each of the three kinds of period, the points that are the last in order of their period"
+            + " are its HEADS.", PruneTest::lastInOrderIsTheHead);
+        promise("the daily last heads of days", PruneTest::daily);
+        promise("(all if there are fewer)", PruneTest::fewerHeadsThanAsked);
+        promise("the weekly last heads of weeks", PruneTest::weekly);
+        promise("the monthly last heads of months", PruneTest::monthly);
+        promise("all pinned points", PruneTest::pinnedAreKept);
+        promise("all pinned points", PruneTest::pinnedHeadsCountAsHeads);
+        promise("and the last point", PruneTest::lastIsKept);
+        promise("All other points are taken out.", PruneTest::othersAreTakenOut);
+        promise("All other points are taken out.", PruneTest::keptPointsHoldWhatTheyHeld);
+        promise("plan is 100 * daily + 10 * weekly + monthly, each 0 .. 9", PruneTest::digitsOfThePlan);
+        promise("-1 if plan is not in 0 .. 999", PruneTest::badPlan);
+        promise("otherwise answers how many points were taken out", PruneTest::answers);
+        promise("otherwise answers how many points were taken out", PruneTest::noPoints);
         Due.end();
+    }
+
+    private static void promise(String words, Runnable test) {
+        Due.test("Promise 12", words, test);
     }
 
     /** A point on each of these days (rising, from 0 on), with file 0 holding its number. */
@@ -32,6 +39,15 @@ public final class PruneTest {
         return x;
     }
 
+    /** 14 points, the first on day 0 and each one this many days after the one before. */
+    private static SyntheticChain fourteen(int apart) {
+        int[] days = new int[14];
+        for (int p = 0; p < 14; p++) {
+            days[p] = p * apart;
+        }
+        return pointsOn(days);
+    }
+
     private static void prunesTo(SyntheticChain x, int plan, int... numbers) {
         String call = "prune(" + plan + ")";
         int before = x.points();
@@ -42,77 +58,74 @@ public final class PruneTest {
         }
     }
 
-    private static void planBounds() {
-        SyntheticChain x = pointsOn(0, 1, 2);
-        int[] bad = {-1, 1000, -100, Integer.MIN_VALUE, Integer.MAX_VALUE};
-        for (int plan : bad) {
-            Due.is("prune(" + plan + ")", x.prune(plan), -1);
-        }
-        Due.is("points() after refused prunes", x.points(), 3);
-        Due.is("prune(999)", x.prune(999), 0);
-        Due.is("points()", x.points(), 3);
+    private static void weekEdges() {
+        prunesTo(pointsOn(0, 6), 20, 1);
+        prunesTo(pointsOn(6, 7), 20, 0, 1);
+        prunesTo(pointsOn(7, 13), 20, 1);
+        prunesTo(pointsOn(13, 14), 20, 0, 1);
+        prunesTo(pointsOn(365, 366), 20, 1);
+        prunesTo(pointsOn(4991, 4997), 20, 1);
+        prunesTo(pointsOn(4997, 4998, 5000), 20, 0, 2);
     }
 
-    private static void noPoints() {
-        SyntheticChain x = new SyntheticChain();
-        x.put(0, 5);
-        Due.is("prune(0) with no points", x.prune(0), 0);
-        Due.is("prune(999) with no points", x.prune(999), 0);
-        Due.is("prune(1000) with no points", x.prune(1000), -1);
-        Due.is("live(0)", x.live(0), 5);
-        Due.is("take", x.take(0), 0);
+    private static void monthEdges() {
+        prunesTo(pointsOn(0, 27), 2, 1);
+        prunesTo(pointsOn(27, 28), 2, 0, 1);
+        prunesTo(pointsOn(28, 55), 2, 1);
+        prunesTo(pointsOn(55, 56), 2, 0, 1);
+        prunesTo(pointsOn(29, 32), 2, 1);
+        prunesTo(pointsOn(4983, 4984), 2, 0, 1);
+        prunesTo(pointsOn(4984, 5000), 2, 1);
     }
 
-    private static void onlyTheLastIsKept() {
-        prunesTo(pointsOn(0, 30, 90), 0, 2);
-        prunesTo(pointsOn(0), 0, 0);
-        prunesTo(pointsOn(3, 3, 3), 0, 2);
+    private static void lastInOrderIsTheHead() {
+        prunesTo(pointsOn(4, 4, 4, 5), 900, 2, 3);
+        prunesTo(pointsOn(0, 3, 3, 7), 90, 2, 3);
+        prunesTo(pointsOn(0, 14, 14, 28), 9, 2, 3);
+        SyntheticChain x = pointsOn(4, 4, 4, 5);
+        x.pin(0, 1);
+        prunesTo(x, 900, 0, 2, 3);
+        SyntheticChain headGone = pointsOn(4, 4, 4, 5);
+        headGone.forget(2);
+        prunesTo(headGone, 900, 1, 3);
     }
 
     private static void daily() {
+        prunesTo(pointsOn(0, 1, 1, 2, 3, 3), 0, 5);
         prunesTo(pointsOn(0, 1, 1, 2, 3, 3), 100, 5);
         prunesTo(pointsOn(0, 1, 1, 2, 3, 3), 200, 3, 5);
         prunesTo(pointsOn(0, 1, 1, 2, 3, 3), 300, 2, 3, 5);
-        prunesTo(pointsOn(0, 1, 2, 3, 4, 5, 6, 7, 8, 9, 10, 11, 12, 13), 900, 5, 6, 7, 8, 9, 10, 11, 12, 13);
+        prunesTo(pointsOn(0, 1, 1, 2, 3, 3), 400, 0, 2, 3, 5);
+        prunesTo(fourteen(1), 900, 5, 6, 7, 8, 9, 10, 11, 12, 13);
     }
 
     private static void weekly() {
+        prunesTo(pointsOn(0, 6, 7, 13, 14, 21), 0, 5);
         prunesTo(pointsOn(0, 6, 7, 13, 14, 21), 10, 5);
         prunesTo(pointsOn(0, 6, 7, 13, 14, 21), 20, 4, 5);
         prunesTo(pointsOn(0, 6, 7, 13, 14, 21), 30, 3, 4, 5);
-        prunesTo(pointsOn(0, 6, 7, 13, 14, 21), 90, 1, 3, 4, 5);
-        prunesTo(pointsOn(0, 7, 14, 21, 28, 35, 42, 49, 56, 63, 70), 90, 2, 3, 4, 5, 6, 7, 8, 9, 10);
+        prunesTo(pointsOn(0, 6, 7, 13, 14, 21), 40, 1, 3, 4, 5);
+        prunesTo(fourteen(7), 90, 5, 6, 7, 8, 9, 10, 11, 12, 13);
     }
 
     private static void monthly() {
+        prunesTo(pointsOn(0, 27, 28, 55, 56, 84), 0, 5);
         prunesTo(pointsOn(0, 27, 28, 55, 56, 84), 1, 5);
         prunesTo(pointsOn(0, 27, 28, 55, 56, 84), 2, 4, 5);
         prunesTo(pointsOn(0, 27, 28, 55, 56, 84), 3, 3, 4, 5);
-        prunesTo(pointsOn(0, 27, 28, 55, 56, 84), 9, 1, 3, 4, 5);
-        prunesTo(pointsOn(0, 30, 60, 90, 120, 150, 180, 210, 240, 270, 300), 9, 2, 3, 4, 5, 6, 7, 8, 9, 10);
-    }
-
-    private static void periodEdges() {
-        prunesTo(pointsOn(6, 7), 20, 0, 1);
-        prunesTo(pointsOn(7, 13), 20, 1);
-        prunesTo(pointsOn(27, 28), 2, 0, 1);
-        prunesTo(pointsOn(28, 55), 2, 1);
-        prunesTo(pointsOn(29, 31), 2, 1);
-        prunesTo(pointsOn(365, 366), 22, 1);
-        prunesTo(pointsOn(4991, 4992, 5000), 200, 1, 2);
-        prunesTo(pointsOn(4991, 4997, 4998, 5000), 20, 1, 3);
-    }
-
-    private static void kindsTogether() {
-        prunesTo(pointsOn(1, 20, 27, 30, 36, 41, 50, 51, 52), 232, 2, 3, 5, 7, 8);
-        prunesTo(pointsOn(1, 20, 27, 30, 36, 41, 50, 51, 52), 230, 3, 5, 7, 8);
-        prunesTo(pointsOn(1, 20, 27, 30, 36, 41, 50, 51, 52), 302, 2, 6, 7, 8);
+        prunesTo(pointsOn(0, 27, 28, 55, 56, 84), 4, 1, 3, 4, 5);
+        prunesTo(fourteen(28), 9, 5, 6, 7, 8, 9, 10, 11, 12, 13);
     }
 
     private static void fewerHeadsThanAsked() {
+        prunesTo(pointsOn(0, 0, 1), 300, 1, 2);
         prunesTo(pointsOn(0, 0, 1), 900, 1, 2);
+        prunesTo(pointsOn(0, 6, 13), 30, 1, 2);
         prunesTo(pointsOn(0, 6, 13), 90, 1, 2);
+        prunesTo(pointsOn(0, 27, 55), 3, 1, 2);
         prunesTo(pointsOn(0, 27, 55), 9, 1, 2);
+        prunesTo(pointsOn(3), 999, 0);
+        prunesTo(fourteen(0), 999, 13);
     }
 
     private static void pinnedAreKept() {
@@ -126,21 +139,46 @@ public final class PruneTest {
         x.pin(0, 0);
         x.pin(1, 0);
         prunesTo(x, 0, 4);
+        SyntheticChain all = fourteen(0);
+        for (int p = 0; p < 14; p++) {
+            all.pin(p, 1);
+        }
+        prunesTo(all, 0, 0, 1, 2, 3, 4, 5, 6, 7, 8, 9, 10, 11, 12, 13);
     }
 
     private static void pinnedHeadsCountAsHeads() {
         SyntheticChain x = pointsOn(0, 1, 2, 3, 4);
         x.pin(3, 1);
         prunesTo(x, 200, 3, 4);
-        SyntheticChain y = pointsOn(0, 0, 1, 1, 2);
-        y.pin(2, 1);
-        prunesTo(y, 200, 2, 3, 4);
+        SyntheticChain notHead = pointsOn(0, 0, 1, 1, 2);
+        notHead.pin(2, 1);
+        prunesTo(notHead, 200, 2, 3, 4);
     }
 
-    private static void lastInOrderIsTheHead() {
-        SyntheticChain x = pointsOn(4, 4, 4, 5);
+    private static void lastIsKept() {
+        prunesTo(pointsOn(0), 0, 0);
+        prunesTo(pointsOn(3, 3, 3), 0, 2);
+        prunesTo(fourteen(30), 0, 13);
+        SyntheticChain x = pointsOn(0, 1, 2);
+        x.forget(2);
+        prunesTo(x, 0, 1);
+        SyntheticChain pinnedLast = pointsOn(0, 1, 2);
+        pinnedLast.pin(2, 1);
+        prunesTo(pinnedLast, 0, 2);
+    }
+
+    private static void othersAreTakenOut() {
+        prunesTo(pointsOn(1, 20, 27, 30, 36, 41, 50, 51, 52), 232, 2, 3, 5, 7, 8);
+        prunesTo(pointsOn(1, 20, 27, 30, 36, 41, 50, 51, 52), 230, 3, 5, 7, 8);
+        prunesTo(pointsOn(1, 20, 27, 30, 36, 41, 50, 51, 52), 302, 2, 6, 7, 8);
+        SyntheticChain x = pointsOn(0, 7, 14, 28, 29, 30, 30);
         x.pin(0, 1);
-        prunesTo(x, 900, 0, 2, 3);
+        prunesTo(x, 211, 0, 4, 6);
+        prunesTo(x, 211, 0, 4, 6);
+        prunesTo(x, 1, 0, 6);
+        x.pin(0, 0);
+        prunesTo(x, 2, 0, 6);
+        prunesTo(x, 10, 6);
     }
 
     private static void keptPointsHoldWhatTheyHeld() {
@@ -166,19 +204,55 @@ public final class PruneTest {
         Due.is("there(1, 3)", x.there(1, 3), 1);
         Due.is("live(4)", x.live(4), 44);
         Due.is("changedSince(1)", x.changedSince(1), 1);
-        Due.is("today after prune", x.advance(1), 8);
-        Due.is("take after prune", x.take(0), 2);
+        Due.is("today stays", x.advance(1), 8);
+        Due.is("take(0)", x.take(0), 2);
         Due.is("pinned(2)", x.pinned(2), 0);
     }
 
-    private static void prunedAgain() {
-        SyntheticChain x = pointsOn(0, 7, 14, 28, 29, 30, 30);
-        x.pin(0, 1);
-        prunesTo(x, 211, 0, 4, 6);
-        prunesTo(x, 211, 0, 4, 6);
-        prunesTo(x, 1, 0, 6);
-        x.pin(0, 0);
-        prunesTo(x, 2, 0, 6);
-        prunesTo(x, 10, 6);
+    private static void digitsOfThePlan() {
+        for (int digit = 0; digit <= 9; digit++) {
+            int heads = Math.max(digit, 1);
+            Due.is("daily " + digit, fourteen(1).prune(100 * digit), 14 - heads);
+            Due.is("weekly " + digit, fourteen(7).prune(10 * digit), 14 - heads);
+            Due.is("monthly " + digit, fourteen(28).prune(digit), 14 - heads);
+            // Other days of one week, or weeks of one month, are no heads of that kind.
+            Due.is("weekly " + digit + " in one week", pointsOn(0, 1, 2, 3, 4, 5, 6).prune(10 * digit), 6);
+            Due.is("monthly " + digit + " in one month", pointsOn(0, 7, 14, 21).prune(digit), 3);
+        }
+        prunesTo(pointsOn(0, 27, 28, 34, 35, 36, 37), 321, 3, 4, 5, 6);
+        prunesTo(pointsOn(0, 27, 28, 34, 35, 36, 37), 123, 1, 3, 6);
+        prunesTo(pointsOn(0, 27, 28, 34, 35, 36, 37), 999, 0, 1, 2, 3, 4, 5, 6);
+        prunesTo(pointsOn(0, 1), 199, 1);
+        prunesTo(pointsOn(0, 7), 19, 1);
+        prunesTo(fourteen(1), 999, 5, 6, 7, 8, 9, 10, 11, 12, 13);
+    }
+
+    private static void badPlan() {
+        SyntheticChain x = pointsOn(0, 0, 0);
+        for (int bad : new int[] {-1, 1000, -100, -999, 1999, Integer.MIN_VALUE, Integer.MAX_VALUE}) {
+            Due.is("prune(" + bad + ")", x.prune(bad), -1);
+        }
+        Due.is("points()", x.points(), 3);
+        Due.is("prune(0)", pointsOn(0, 0, 0).prune(0), 2);
+        Due.is("prune(999)", pointsOn(0, 0, 0).prune(999), 2);
+    }
+
+    private static void answers() {
+        Due.is("prune(0) of one point", pointsOn(0).prune(0), 0);
+        Due.is("prune(0) of 14 points", fourteen(1).prune(0), 13);
+        Due.is("prune(999) of three days", pointsOn(0, 1, 2).prune(999), 0);
+        Due.is("prune(200) of three days", pointsOn(0, 1, 2).prune(200), 1);
+    }
+
+    private static void noPoints() {
+        SyntheticChain x = new SyntheticChain();
+        x.put(0, 5);
+        Due.is("prune(0)", x.prune(0), 0);
+        Due.is("prune(999)", x.prune(999), 0);
+        Due.is("prune(1000)", x.prune(1000), -1);
+        Due.is("prune(-1)", x.prune(-1), -1);
+        Due.is("points()", x.points(), 0);
+        Due.is("live(0)", x.live(0), 5);
+        Due.is("prune(999) when none is left", State.emptiedAgain().made().prune(999), 0);
     }
 }
