@@ -10,7 +10,8 @@ public final class PruneTest {
         promise("the weekly last heads of weeks", PruneTest::weekly);
         promise("the monthly last heads of months", PruneTest::monthly);
         promise("all pinned points", PruneTest::pinnedAreKept);
-        promise("all pinned points", PruneTest::pinnedHeadsCountAsHeads);
+        promise("the points that are the last in order of their period are its HEADS", PruneTest::pinnedHeadsCountAsHeads);
+        promise("all pinned points", PruneTest::pinnedAreKeptBesideTheHeads);
         promise("and the last point", PruneTest::lastIsKept);
         promise("All other points are taken out.", PruneTest::othersAreTakenOut);
         promise("All other points are taken out.", PruneTest::keptPointsHoldWhatTheyHeld);
@@ -146,13 +147,38 @@ public final class PruneTest {
         prunesTo(all, 0, 0, 1, 2, 3, 4, 5, 6, 7, 8, 9, 10, 11, 12, 13);
     }
 
+    private static SyntheticChain pinning(SyntheticChain x, int... positions) {
+        for (int p : positions) {
+            x.pin(p, 1);
+        }
+        return x;
+    }
+
+    /** A pinned head is one of the last heads: no older head is kept in its stead. */
     private static void pinnedHeadsCountAsHeads() {
-        SyntheticChain x = pointsOn(0, 1, 2, 3, 4);
-        x.pin(3, 1);
-        prunesTo(x, 200, 3, 4);
-        SyntheticChain notHead = pointsOn(0, 0, 1, 1, 2);
-        notHead.pin(2, 1);
-        prunesTo(notHead, 200, 2, 3, 4);
+        int[] days = {0, 1, 2, 3, 4};
+        int[] weeks = {0, 7, 14, 21, 28};
+        int[] months = {0, 28, 56, 84, 112};
+        prunesTo(pinning(pointsOn(days), 3), 200, 3, 4);
+        prunesTo(pinning(pointsOn(days), 4), 200, 3, 4);
+        prunesTo(pinning(pointsOn(days), 3, 4), 300, 2, 3, 4);
+        prunesTo(pinning(pointsOn(weeks), 3), 20, 3, 4);
+        prunesTo(pinning(pointsOn(weeks), 4), 20, 3, 4);
+        prunesTo(pinning(pointsOn(weeks), 3, 4), 30, 2, 3, 4);
+        prunesTo(pinning(pointsOn(months), 3), 2, 3, 4);
+        prunesTo(pinning(pointsOn(months), 4), 2, 3, 4);
+        prunesTo(pinning(pointsOn(months), 3, 4), 3, 2, 3, 4);
+    }
+
+    /** A pinned point that is no head, or none of the last ones, is kept and takes no head's place. */
+    private static void pinnedAreKeptBesideTheHeads() {
+        prunesTo(pinning(pointsOn(0, 0, 1, 1, 2), 2), 200, 2, 3, 4);
+        prunesTo(pinning(pointsOn(0, 1, 2, 2, 3), 2), 300, 1, 2, 3, 4);
+        prunesTo(pinning(pointsOn(0, 7, 14, 15, 21), 2), 30, 1, 2, 3, 4);
+        prunesTo(pinning(pointsOn(0, 28, 56, 63, 84), 2), 3, 1, 2, 3, 4);
+        prunesTo(pinning(pointsOn(0, 1, 2, 3, 4), 0), 200, 0, 3, 4);
+        prunesTo(pinning(pointsOn(0, 7, 14, 21, 28), 1), 20, 1, 3, 4);
+        prunesTo(pinning(pointsOn(0, 28, 56, 84, 112), 0, 1), 2, 0, 1, 3, 4);
     }
 
     private static void lastIsKept() {
