@@ -24,9 +24,11 @@ import javax.tools.ToolProvider;
 
 /**
  * Finds what in a source breaks ../shared/LANGUAGE.md, as far as the text alone shows it.
- * It is narrower than the rules in three places, where the class does not need more than it allows:
- * arrays are made in fields' initialisers alone (rule 4), a divisor is a number or a constant (rule 7),
- * and every loop is a for with a counter of its own that its body leaves alone (rule 8).
+ * It is narrower than the rules where the class does not need all that they allow: arrays are made in
+ * fields' initialisers alone and no variable is set to another array (rule 4), a divisor is a number or a
+ * constant (rule 7), and every loop is a for whose own counter goes up by one below a bound, or down by
+ * one to a bound, and is left alone by its body (rule 8). It does not see whether an index is looked at
+ * before it is used (rule 7), nor whether a loop's bound changes inside the loop (rule 8).
  */
 final class Language extends TreePathScanner<Void, Void> {
     private static final Set<TypeKind> NUMBERS =
